@@ -67,7 +67,7 @@ public final class AccordHouse {
     private final Book book = new Book();
     private final Node[] nodes = new Node[NODES];
     private final Line line = new Line();
-    private final View then = new View(book, new int[ROWS]);
+    private final View then;
     private final Text text = new Text(book);
     private final Draft draft = new Draft();
     private final int[] ranks = new int[SLOTS];
@@ -77,6 +77,7 @@ public final class AccordHouse {
         for (int self = 0; self < NODES; self++) {
             nodes[self] = new Node(self, book);
         }
+        then = new View(book, nodes[0].ledger, new int[ROWS]);
     }
 
     public boolean type(long word, int n) {
@@ -732,36 +733,35 @@ public final class AccordHouse {
     }
 
     private int sizeOf(Node asked, int chain, char rule) {
-        switch (rule) {
-            case 'S':
-                return asked.now.findSeveral(chain);
-            case 'B':
-                return NODES + 1;
-            case 'A':
-            case 'M':
-                return asked.now.keysOf(chain, rule);
-            case 'T':
-                text.read(asked.now, chain);
-                return text.length;
-            default:
-                return 1;
+        if (rule == 'S') {
+            return asked.now.findSeveral(chain);
         }
+        if (rule == 'B') {
+            return NODES + 1;
+        }
+        if (rule == 'A' || rule == 'M') {
+            return asked.now.keysOf(chain, rule);
+        }
+        if (rule == 'T') {
+            text.read(asked.now, chain);
+            return text.length;
+        }
+        return 1;
     }
 
     /** The row of value i, which is below the size; null of an L without one. */
     private Row sourceOf(View now, int chain, char rule, int i) {
-        switch (rule) {
-            case 'S':
-                return i < now.findSeveral(chain) ? now.several[i] : null;
-            case 'A':
-            case 'M':
-                return now.keyAt(chain, rule, i);
-            case 'T':
-                text.read(now, chain);
-                return i < text.length ? text.shown[i] : null;
-            default:
-                return now.lastGood(chain);
+        if (rule == 'S') {
+            return i < now.findSeveral(chain) ? now.several[i] : null;
         }
+        if (rule == 'A' || rule == 'M') {
+            return now.keyAt(chain, rule, i);
+        }
+        if (rule == 'T') {
+            text.read(now, chain);
+            return i < text.length ? text.shown[i] : null;
+        }
+        return now.lastGood(chain);
     }
 
     /** Puts a slot among the first ranks, behind all whose part is no greater. */
@@ -1091,14 +1091,10 @@ public final class AccordHouse {
         private Ledger ledger;
         private int upTo = ROWS;
 
-        View(Book book, int[] undone) {
+        View(Book book, Ledger ledger, int[] undone) {
             this.book = book;
+            this.ledger = ledger;
             this.undone = undone;
-            this.ledger = null;
-        }
-
-        void look(Ledger at) {
-            ledger = at;
         }
 
         void lookBack(Ledger at, int first) {
@@ -1522,8 +1518,7 @@ public final class AccordHouse {
             this.self = self;
             this.book = book;
             this.ledger = new Ledger(book);
-            this.now = new View(book, ledger.undone);
-            this.now.look(ledger);
+            this.now = new View(book, ledger, ledger.undone);
         }
 
         int timeNow() {
@@ -1829,8 +1824,8 @@ public final class AccordHouse {
         int loaded;
         int length;
         int bent;
-        private byte[] written;
-        private byte[] twists;
+        private byte[] written = new byte[0];
+        private byte[] twists = new byte[0];
 
         void begin(Node sender, int receiver, boolean asks) {
             from = sender.self;
@@ -1867,7 +1862,7 @@ public final class AccordHouse {
             if (length > 0) {
                 return;
             }
-            if (written == null) {
+            if (written.length == 0) {
                 written = new byte[MOST_BYTES];
                 twists = new byte[MOST_BYTES];
             }
