@@ -71,6 +71,7 @@ public final class AccordHouse {
     private final Text text = new Text(book);
     private final Draft draft = new Draft();
     private final int[] ranks = new int[SLOTS];
+    private final int[] parents = new int[SLOTS];
     private int joins = 0;
 
     public AccordHouse() {
@@ -301,7 +302,7 @@ public final class AccordHouse {
     public int size(int node, int object, int part) {
         int slot = madeSlot(node, object);
         char rule = ruleAt(slot, part);
-        return rule == NO_RULE ? NONE : sizeOf(nodes[node], slot * CHAINS_EACH + part, rule);
+        return rule == NO_RULE ? NONE : findValues(nodes[node].now, slot * CHAINS_EACH + part, rule);
     }
 
     public int value(int node, int object, int part, int i) throws NoSuchElementException {
@@ -310,18 +311,18 @@ public final class AccordHouse {
         if (rule == NO_RULE || i < 0) {
             throw new NoSuchElementException("no such part or value");
         }
+        View now = nodes[node].now;
         int chain = slot * CHAINS_EACH + part;
-        if (i >= sizeOf(nodes[node], chain, rule)) {
+        if (i >= findValues(now, chain, rule)) {
             throw new NoSuchElementException("no such value");
         }
-        View now = nodes[node].now;
         if (rule == 'C') {
             return now.sumOf(chain);
         }
         if (rule == 'B') {
             return now.shareOf(chain, i);
         }
-        Row source = sourceOf(now, chain, rule, i);
+        Row source = sourceAt(now, chain, rule, i);
         return source == null ? 0 : source.v;
     }
 
@@ -343,11 +344,12 @@ public final class AccordHouse {
         if (rule == NO_RULE || rule == 'C' || rule == 'B') {
             return NONE;
         }
+        View now = nodes[node].now;
         int chain = slot * CHAINS_EACH + part;
-        if (i < 0 || i >= sizeOf(nodes[node], chain, rule)) {
+        if (i < 0 || i >= findValues(now, chain, rule)) {
             return NONE;
         }
-        Row source = sourceOf(nodes[node].now, chain, rule, i);
+        Row source = sourceAt(now, chain, rule, i);
         return source == null ? 0 : source.name;
     }
 
@@ -706,16 +708,16 @@ public final class AccordHouse {
     }
 
     private int parentOf(Node asked, int slot) {
-        asked.now.findParents(asked.after);
-        int parent = asked.after[slot];
+        asked.now.findParents(parents);
+        int parent = parents[slot];
         return parent == 0 ? NONE : book.nameOf(parent - 1);
     }
 
     private int childrenOf(Node asked, int slot) {
-        asked.now.findParents(asked.after);
+        asked.now.findParents(parents);
         int found = 0;
         for (int child = 0; child < SLOTS; child++) {
-            if (asked.after[child] == slot + 1 && asked.now.isThere(child)) {
+            if (parents[child] == slot + 1 && asked.now.isThere(child)) {
                 found++;
             }
         }
@@ -732,36 +734,33 @@ public final class AccordHouse {
         return found;
     }
 
-    private int sizeOf(Node asked, int chain, char rule) {
+    /** How many values a part has; they are kept where they are found. */
+    private int findValues(View now, int chain, char rule) {
         if (rule == 'S') {
-            return asked.now.findSeveral(chain);
+            return now.findSeveral(chain);
         }
         if (rule == 'B') {
             return NODES + 1;
         }
         if (rule == 'A' || rule == 'M') {
-            return asked.now.keysOf(chain, rule);
+            return now.findKeys(chain, rule);
         }
         if (rule == 'T') {
-            text.read(asked.now, chain);
+            text.read(now, chain);
             return text.length;
         }
         return 1;
     }
 
-    /** The row of value i, which is below the size; null of an L without one. */
-    private Row sourceOf(View now, int chain, char rule, int i) {
+    /** The row of value i of those that were found; null of an L without one. */
+    private Row sourceAt(View now, int chain, char rule, int i) {
         if (rule == 'S') {
-            return i < now.findSeveral(chain) ? now.several[i] : null;
+            return now.several[i];
         }
         if (rule == 'A' || rule == 'M') {
-            return now.keyAt(chain, rule, i);
+            return now.keyAt(i);
         }
-        if (rule == 'T') {
-            text.read(now, chain);
-            return i < text.length ? text.shown[i] : null;
-        }
-        return now.lastGood(chain);
+        return rule == 'T' ? text.shown[i] : now.lastGood(chain);
     }
 
     /** Puts a slot among the first ranks, behind all whose part is no greater. */
@@ -1087,6 +1086,8 @@ public final class AccordHouse {
         private final Book book;
         private final int[] undone;
         private final int[] knew = new int[NODES];
+        private final int[] left = new int[KEYS * NODES];
+        private final Row[] keyed = new Row[KEYS];
         private final int[] shares = new int[NODES + 1];
         private Ledger ledger;
         private int upTo = ROWS;
@@ -1174,7 +1175,7 @@ public final class AccordHouse {
 
         /** Fills several; a put knew all earlier ones of its node, so four do. */
         int findSeveral(int chain) {
-            gatherKnown(chain, PUT, 0);
+            gatherKnown(chain);
             int found = 0;
             for (Row row = ledger.oldest[chain]; row != null; row = ledger.newer[row.index]) {
                 if (found < NODES && isGood(row) && row.number > knew[row.node]) {
@@ -1185,27 +1186,86 @@ public final class AccordHouse {
             return found;
         }
 
-        /* Of a leave its v must be the one asked for, of a put any v will do. */
-        private void gatherKnown(int chain, int sort, int v) {
+        private void gatherKnown(int chain) {
             Arrays.fill(knew, 0);
             for (Row row = ledger.newest[chain]; row != null; row = ledger.older[row.index]) {
-                if (row.sort == sort && (sort == PUT || row.v == v) && isGood(row)) {
-                    for (int q = 0; q < NODES; q++) {
-                        knew[q] = Math.max(knew[q], row.vector[q]);
-                    }
+                if (isGood(row)) {
+                    raise(knew, 0, row.vector);
                 }
             }
         }
 
-        /** The last of the enters for which v is in a set, or null. */
-        Row enterOf(int chain, int v) {
-            gatherKnown(chain, LEAVE, v);
+        private static void raise(int[] knew, int start, int[] vector) {
+            for (int q = 0; q < NODES; q++) {
+                knew[start + q] = Math.max(knew[start + q], vector[q]);
+            }
+        }
+
+        /** Fills keyed with the rows by which the keys of a set or map are in it. */
+        int findKeys(int chain, char rule) {
+            if (rule == 'A') {
+                findMembers(chain);
+            } else {
+                findBinds(chain);
+            }
+            int found = 0;
+            for (int key = 0; key < KEYS; key++) {
+                found += keyed[key] == null ? 0 : 1;
+            }
+            return found;
+        }
+
+        private void forgetKeys() {
+            for (int key = 0; key < KEYS; key++) {
+                keyed[key] = null;
+            }
+        }
+
+        private void findMembers(int chain) {
+            forgetKeys();
+            Arrays.fill(left, 0);
             for (Row row = ledger.newest[chain]; row != null; row = ledger.older[row.index]) {
-                if (row.sort == ENTER && row.v == v && isGood(row) && row.number > knew[row.node]) {
-                    return row;
+                if (row.sort == LEAVE && isGood(row)) {
+                    raise(left, NODES * row.v, row.vector);
+                }
+            }
+            for (Row row = ledger.oldest[chain]; row != null; row = ledger.newer[row.index]) {
+                if (row.sort == ENTER && isGood(row) && row.number > left[NODES * row.v + row.node]) {
+                    keyed[row.v] = row;
+                }
+            }
+        }
+
+        private void findBinds(int chain) {
+            forgetKeys();
+            for (Row row = ledger.oldest[chain]; row != null; row = ledger.newer[row.index]) {
+                if (isGood(row)) {
+                    keyed[row.v] = row.sort == BIND ? row : null;
+                }
+            }
+        }
+
+        /** The i-th of the rows that findKeys found. */
+        Row keyAt(int i) {
+            int found = 0;
+            for (int key = 0; key < KEYS; key++) {
+                if (keyed[key] != null) {
+                    if (found == i) {
+                        return keyed[key];
+                    }
+                    found++;
                 }
             }
             return null;
+        }
+
+        /** The last of the enters for which v is in a set, or null. */
+        Row enterOf(int chain, int v) {
+            if (!isKey(v)) {
+                return null;
+            }
+            findMembers(chain);
+            return keyed[v];
         }
 
         /** The bind by which a key is bound, or null. */
@@ -1213,34 +1273,6 @@ public final class AccordHouse {
             for (Row row = ledger.newest[chain]; row != null; row = ledger.older[row.index]) {
                 if (row.v == key && isGood(row)) {
                     return row.sort == BIND ? row : null;
-                }
-            }
-            return null;
-        }
-
-        private Row keyRow(int chain, char rule, int key) {
-            return rule == 'A' ? enterOf(chain, key) : bindOf(chain, key);
-        }
-
-        int keysOf(int chain, char rule) {
-            int found = 0;
-            for (int key = 0; key < KEYS; key++) {
-                if (keyRow(chain, rule, key) != null) {
-                    found++;
-                }
-            }
-            return found;
-        }
-
-        Row keyAt(int chain, char rule, int i) {
-            int found = 0;
-            for (int key = 0; key < KEYS; key++) {
-                Row row = keyRow(chain, rule, key);
-                if (row != null) {
-                    if (found == i) {
-                        return row;
-                    }
-                    found++;
                 }
             }
             return null;
@@ -1378,8 +1410,7 @@ public final class AccordHouse {
         /* An insert goes right behind its w, ahead of all that came there earlier;
            those that are undone keep their places, as others stand behind them. */
         void read(View view, int chain) {
-            Arrays.fill(next, 0);
-            Arrays.fill(gone, 0);
+            next[0] = 0;
             for (Row row = view.ledger.oldest[chain]; row != null; row = view.ledger.newer[row.index]) {
                 if (!view.isApplied(row)) {
                     continue;
@@ -1504,7 +1535,6 @@ public final class AccordHouse {
         final int[] seen = new int[PAIRS];
         final int[] sent = new int[PAIRS];
         final int[] cursors = new int[4 * NODES];
-        final int[] after = new int[SLOTS];
         int watch = 0;
         int lastTime = 0;
         int lastCount = 0;
@@ -1512,6 +1542,7 @@ public final class AccordHouse {
         private final Book book;
         private final Row[] waits = new Row[MOST_WAITS];
         private final int[] before = new int[SLOTS];
+        private final int[] after = new int[SLOTS];
         private final int[] lists = new int[4 * 4];
 
         Node(int self, Book book) {
