@@ -20,6 +20,7 @@ public final class FramesTest {
         waits();
         thirtyWait();
         turnedRound();
+        causesAreWaitedFor();
         asks();
         asksAgain();
         CHECK.end();
@@ -401,6 +402,34 @@ public final class FramesTest {
             CHECK.due("place of " + due[i], house.row(3, due[i], 9), i);
         }
         CHECK.due("the last in ORDER", house.value(3, 1, 0, 0), 11);
+    }
+
+    /** A row that is the next one of its node waits for those that its node knew. */
+    private static void causesAreWaitedFor() {
+        for (int first = 0; first < 3; first++) {
+            causeIsMissing(first, (first + 1) % 3);
+        }
+    }
+
+    private static void causeIsMissing(int first, int second) {
+        AccordHouse house = new AccordHouse();
+        Check.kind(house, "L");
+        int object = house.act(first, 0, 0, 0, 0, 0);
+        for (int i = 1; i <= 8; i++) {
+            house.act(first, 1, object, 0, i, 0);
+        }
+        Check.bring(house, first, second);
+        house.act(second, 1, object, 0, 77, 0);
+        Check.bring(house, second, first);
+        house.send(second, 3, false);
+        CHECK.due("eight of the first node", house.frame(0, 15), 1000 * first + 8);
+        house.send(second, 3, false);
+        CHECK.due("the ninth and one of the second node", house.frame(1, 9), 1000 * second + 1);
+        CHECK.due("neither is ready", house.deliver(1), 0);
+        CHECK.due("both wait", house.node(3, 2), 2);
+        CHECK.due("the object is not made", house.object(3, object, 0), -1);
+        CHECK.due("all ten", house.deliver(0), 10);
+        CHECK.due("the value", house.value(3, object, 0, 0), 77);
     }
 
     private static void asks() {

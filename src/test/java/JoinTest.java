@@ -10,6 +10,7 @@ public final class JoinTest {
         waitsStay();
         fortyTimes();
         actsGoOn();
+        firstRowOfAll();
         CHECK.end();
     }
 
@@ -62,6 +63,7 @@ public final class JoinTest {
         CHECK.due("the list stands", house.listed(1, 0, 0), 1);
         CHECK.due("no news", house.news(1, 0, 0), -1);
         CHECK.due("as it was", house.past(1, 6, 1, 0), 6);
+        CHECK.due("with what was undone then", house.past(1, 7, 1, 0), 5);
     }
 
     private static void seenIsRaised() {
@@ -141,6 +143,22 @@ public final class JoinTest {
         }
         CHECK.due("join 41", house.join(1, 0), false);
         CHECK.due("of any node", house.join(3, 0), false);
+    }
+
+    /** The very first row of node 0 may be a change of another one's object. */
+    private static void firstRowOfAll() {
+        AccordHouse house = new AccordHouse();
+        Check.kind(house, "LC");
+        house.act(1, 0, 0, 0, 0, 0);
+        house.act(1, 3, 1001, 1, 7, 0);
+        Check.bring(house, 1, 0);
+        house.act(0, 3, 1001, 1, 1, 0);
+        house.act(0, 3, 1001, 1, 2, 0);
+        CHECK.due("join", house.join(2, 0), true);
+        CHECK.due("the sum", house.value(2, 1001, 1, 0), 10);
+        house.act(2, 3, 1001, 1, 4, 0);
+        CHECK.due("and on", house.value(2, 1001, 1, 0), 14);
+        CHECK.due("as it was", house.past(2, 3, 1001, 1), 8);
     }
 
     private static void actsGoOn() {

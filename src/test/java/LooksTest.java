@@ -107,12 +107,37 @@ public final class LooksTest {
             CHECK.due("row " + name, house.row(0, name, 0), -1);
         }
         CHECK.due("not applied there", house.row(1, 1, 0), -1);
+        rowsAtTheLimit();
         CHECK.due("node -1", house.row(-1, 1, 0), -1);
         CHECK.due("node 4", house.row(4, 1, 0), -1);
         CHECK.due("what -1", house.row(0, 1, -1), -1);
         CHECK.due("what 14", house.row(0, 1, 14), -1);
         CHECK.due("the greatest what", house.row(0, 1, Integer.MAX_VALUE), -1);
         CHECK.due("the least what", house.row(0, 1, Integer.MIN_VALUE), -1);
+    }
+
+    /** No name of one node's is taken for a row of the next one's. */
+    private static void rowsAtTheLimit() {
+        AccordHouse house = new AccordHouse();
+        Check.kind(house, "L");
+        for (int node = 0; node < 4; node++) {
+            house.act(node, 0, 0, 0, 0, 0);
+            for (int i = 2; i <= 250; i++) {
+                house.act(node, 1, 1000 * node + 1, 0, i, 0);
+            }
+            CHECK.due("the last one", house.row(node, 1000 * node + 250, 3), 250);
+            if (node < 3) {
+                house.send(node, node + 1, true);
+                house.deliver(0);
+                house.lose(0);
+            }
+        }
+        for (int node = 0; node < 4; node++) {
+            for (int name : new int[] {0, 251, 1000, 1251, 2000, 2251, 3000, 3251, 4000, 999, 1999}) {
+                CHECK.due("row " + name, house.row(node, name, 0), -1);
+                CHECK.due("object " + name, house.object(node, name, 0), -1);
+            }
+        }
     }
 
     private static void stableRows() {
