@@ -1197,7 +1197,9 @@ public final class AccordHouse {
 
         private static void raise(int[] knew, int start, int[] vector) {
             for (int q = 0; q < NODES; q++) {
-                knew[start + q] = Math.max(knew[start + q], vector[q]);
+                if (vector[q] > knew[start + q]) {
+                    knew[start + q] = vector[q];
+                }
             }
         }
 

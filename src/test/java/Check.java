@@ -1,20 +1,31 @@
 import java.util.NoSuchElementException;
+import java.util.function.IntUnaryOperator;
 
 /** Counts answers that are not due, and ends a test by them. */
 final class Check {
     private int asked = 0;
     private int wrong = 0;
+    private String about = "";
 
     /** A call that is expected to throw, or to answer. */
     interface Call {
         long answer();
     }
 
+    /** What is asked from now on is told with these words, if it is wrong. */
+    void about(String words) {
+        about = words + ": ";
+    }
+
+    private void tell(String fault) {
+        wrong++;
+        System.out.println(about + fault);
+    }
+
     void due(String call, long got, long want) {
         asked++;
         if (got != want) {
-            wrong++;
-            System.out.println(call + " answered " + got + ", due is " + want);
+            tell(call + " answered " + got + ", due is " + want);
         }
     }
 
@@ -34,12 +45,25 @@ final class Check {
             }
             got = "threw " + e;
         }
-        wrong++;
-        System.out.println(call + " " + got + ", due is " + want.getSimpleName());
+        tell(call + " " + got + ", due is " + want.getSimpleName());
     }
 
     void dueNoSuch(String call, Call given) {
         dueThrow(call, given, NoSuchElementException.class);
+    }
+
+    /** All of these whats, from 0 on. */
+    void dueAll(String call, IntUnaryOperator given, int... want) {
+        for (int what = 0; what < want.length; what++) {
+            due(call + " " + what, given.applyAsInt(what), want[what]);
+        }
+    }
+
+    /** The same answer for each of these. */
+    void dueEach(String call, IntUnaryOperator given, int want, int... each) {
+        for (int one : each) {
+            due(call + " " + one, given.applyAsInt(one), want);
+        }
     }
 
     /** To be called last: tells what was found, and ends the test. */
@@ -48,6 +72,16 @@ final class Check {
         if (wrong != 0) {
             System.exit(1);
         }
+    }
+
+    /** A new object with these kinds; node 0 has made an object of each: 1, 2, .. */
+    static AccordHouse house(String... kinds) {
+        AccordHouse house = new AccordHouse();
+        for (int i = 0; i < kinds.length; i++) {
+            kind(house, kinds[i]);
+            house.act(0, 0, 0, 0, i, 0);
+        }
+        return house;
     }
 
     /** Types a text, in pieces of at most eight characters. */
@@ -99,8 +133,7 @@ final class Check {
     void dueText(String what, String got, String want) {
         asked++;
         if (!got.equals(want)) {
-            wrong++;
-            System.out.println(what + " is \"" + got + "\", due is \"" + want + "\"");
+            tell(what + " is \"" + got + "\", due is \"" + want + "\"");
         }
     }
 
