@@ -36,17 +36,8 @@ final class ArrivalEdges {
         edges.edge(0, "the first 200 are kept.", ArrivalEdges::turnsKept);
     }
 
-    /** Object 1 of kind LT, and as many sets of it as told. */
-    private static AccordHouse house(int sets) {
-        AccordHouse house = Check.house("LT");
-        for (int i = 1; i <= sets; i++) {
-            house.act(0, 1, 1, 0, i, 0);
-        }
-        return house;
-    }
-
     private static void delivered(Check check) {
-        AccordHouse house = house(9);
+        AccordHouse house = Check.houseOfSets(9);
         house.send(0, 1, false);
         house.send(0, 1, false);
         house.send(0, 1, false);
@@ -61,7 +52,7 @@ final class ArrivalEdges {
     }
 
     private static void refused(Check check) {
-        AccordHouse house = house(0);
+        AccordHouse house = Check.houseOfSets(0);
         house.send(0, 1, false);
         house.twice(0);
         house.bend(0, 0, 1);
@@ -73,7 +64,7 @@ final class ArrivalEdges {
     }
 
     private static void deliverNone(Check check) {
-        AccordHouse house = house(0);
+        AccordHouse house = Check.houseOfSets(0);
         check.due("none waits", house.deliver(0), -1);
         house.send(0, 1, false);
         check.dueEach("frame", house::deliver, -1, 1, -1, 60, LEAST, MOST);
@@ -83,7 +74,7 @@ final class ArrivalEdges {
     }
 
     private static void bent(Check check) {
-        AccordHouse house = house(2);
+        AccordHouse house = Check.houseOfSets(2);
         house.cursor(0, 1, 1, 0);
         house.send(0, 1, false);
         house.bend(0, 5, 64);
@@ -111,7 +102,7 @@ final class ArrivalEdges {
     }
 
     private static void seenIsRaised(Check check) {
-        AccordHouse house = house(1);
+        AccordHouse house = Check.houseOfSets(1);
         house.send(0, 1, false);
         house.act(0, 1, 1, 0, 9, 0);
         house.send(0, 1, false);
@@ -129,7 +120,7 @@ final class ArrivalEdges {
     }
 
     private static void cursors(Check check) {
-        AccordHouse house = house(0);
+        AccordHouse house = Check.houseOfSets(0);
         Check.commit(house, 0, 1, 1, "abc");
         Check.bring(house, 0, 1);
         house.cursor(0, 1, 1, 1);
@@ -153,7 +144,7 @@ final class ArrivalEdges {
     }
 
     private static void passedOver(Check check) {
-        AccordHouse house = house(3);
+        AccordHouse house = Check.houseOfSets(3);
         house.send(0, 1, false);
         house.twice(0);
         check.due("four", house.deliver(0), 4);
@@ -169,7 +160,7 @@ final class ArrivalEdges {
     }
 
     private static void ready(Check check) {
-        AccordHouse house = house(8);
+        AccordHouse house = Check.houseOfSets(8);
         house.send(0, 1, false);
         house.send(0, 1, false);
         check.due("9 is more than 1 above 0", house.deliver(1), 0);
@@ -193,7 +184,7 @@ final class ArrivalEdges {
 
     /** Of rows that wait for the same one 2001 is the first in ORDER, then 1001, then 2002. */
     private static void firstOfThose(Check check) {
-        AccordHouse house = house(0);
+        AccordHouse house = Check.houseOfSets(0);
         house.join(3, 0);
         house.act(0, 1, 1, 0, 5, 0);
         for (int node = 1; node < 3; node++) {
@@ -221,7 +212,7 @@ final class ArrivalEdges {
     }
 
     private static void waitsOnce(Check check) {
-        AccordHouse house = house(9);
+        AccordHouse house = Check.houseOfSets(9);
         house.send(0, 1, false);
         house.send(0, 1, false);
         house.twice(1);
@@ -234,7 +225,7 @@ final class ArrivalEdges {
     }
 
     private static void thirtyWait(Check check) {
-        AccordHouse house = house(39);
+        AccordHouse house = Check.houseOfSets(39);
         for (int i = 0; i < 5; i++) {
             house.send(0, 1, false);
         }
@@ -256,7 +247,7 @@ final class ArrivalEdges {
         house.send(1, 0, true);
         house.deliver(0);
         check.due("but when they are asked for", house.deliver(0), 2);
-        AccordHouse thirty = house(0);
+        AccordHouse thirty = Check.houseOfSets(0);
         thirty.send(0, 1, false);
         for (int i = 1; i <= 30; i++) {
             thirty.act(0, 1, 1, 0, i, 0);
@@ -270,7 +261,7 @@ final class ArrivalEdges {
     }
 
     private static void waitsNoLonger(Check check) {
-        AccordHouse house = house(9);
+        AccordHouse house = Check.houseOfSets(9);
         house.send(0, 1, false);
         house.send(0, 1, false);
         house.deliver(1);
@@ -281,7 +272,7 @@ final class ArrivalEdges {
     }
 
     private static void sentBecomesVector(Check check) {
-        AccordHouse house = house(9);
+        AccordHouse house = Check.houseOfSets(9);
         house.send(0, 1, false);
         house.send(0, 1, false);
         house.lose(0);
@@ -301,7 +292,7 @@ final class ArrivalEdges {
     }
 
     private static void sentBack(Check check) {
-        AccordHouse house = house(9);
+        AccordHouse house = Check.houseOfSets(9);
         for (int i = 0; i < 60; i++) {
             house.send(1, 0, true);
         }
@@ -312,14 +303,14 @@ final class ArrivalEdges {
         check.due("the first ask", house.deliver(0), 0);
         check.dueAll("its answer", what -> house.frame(59, what), 0, 1, 0, 8);
         check.due("the first answer is ahead of it", house.frame(58, 0), 0);
-        AccordHouse none = house(0);
+        AccordHouse none = Check.houseOfSets(0);
         none.send(0, 1, true);
         none.deliver(0);
         check.dueAll("an answer without rows", what -> none.frame(0, what), 1, 0, 0, 0);
     }
 
     private static void last(Check check) {
-        AccordHouse house = house(0);
+        AccordHouse house = Check.houseOfSets(0);
         house.join(1, 0);
         house.tick(1, 9);
         house.act(1, 1, 1, 0, 5, 0);

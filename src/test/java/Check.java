@@ -84,6 +84,24 @@ final class Check {
         return house;
     }
 
+    /** The same, and all other nodes have these objects too. */
+    static AccordHouse everywhere(String... kinds) {
+        AccordHouse house = house(kinds);
+        for (int node = 1; node < 4; node++) {
+            house.join(node, 0);
+        }
+        return house;
+    }
+
+    /** Object 1 of kind LT, with as many sets of its first part as told: 1, 2, .. */
+    static AccordHouse houseOfSets(int sets) {
+        AccordHouse house = house("LT");
+        for (int i = 1; i <= sets; i++) {
+            house.act(0, 1, 1, 0, i, 0);
+        }
+        return house;
+    }
+
     /** Types a text, in pieces of at most eight characters. */
     static void type(AccordHouse house, String text) {
         for (int i = 0; i < text.length(); i += 8) {
@@ -135,6 +153,12 @@ final class Check {
         if (!got.equals(want)) {
             tell(what + " is \"" + got + "\", due is \"" + want + "\"");
         }
+    }
+
+    /** Each of two gets all that the other one has. */
+    static void meet(AccordHouse house, int one, int other) {
+        bring(house, one, other);
+        bring(house, other, one);
     }
 
     /** Sends and delivers frames till the receiver has all that the sender has. */

@@ -44,17 +44,8 @@ final class FrameEdges {
         edges.edge(31, "NONE if there is none such, or for another what.", FrameEdges::frameOfNone);
     }
 
-    /** Object 1 of kind LT, and as many sets of it as told. */
-    private static AccordHouse house(int sets) {
-        AccordHouse house = Check.house("LT");
-        for (int i = 1; i <= sets; i++) {
-            house.act(0, 1, 1, 0, i, 0);
-        }
-        return house;
-    }
-
     private static void sixtyWait(Check check) {
-        AccordHouse house = house(0);
+        AccordHouse house = Check.houseOfSets(0);
         for (int i = 0; i < 60; i++) {
             check.due("send", house.send(i % 3, 3, i % 5 == 0), true);
             check.due("so many", house.total(2), i + 1);
@@ -74,7 +65,7 @@ final class FrameEdges {
     }
 
     private static void knownThen(Check check) {
-        AccordHouse house = house(1);
+        AccordHouse house = Check.houseOfSets(1);
         house.cursor(0, 1, 1, 0);
         house.send(0, 1, true);
         house.act(0, 1, 1, 0, 5, 0);
@@ -89,7 +80,7 @@ final class FrameEdges {
 
     private static void eightRows(Check check) {
         for (int rows = 1; rows <= 17; rows++) {
-            AccordHouse house = house(rows - 1);
+            AccordHouse house = Check.houseOfSets(rows - 1);
             house.send(0, 1, false);
             house.send(0, 1, false);
             house.send(0, 1, false);
@@ -100,7 +91,7 @@ final class FrameEdges {
     }
 
     private static void askWithoutRows(Check check) {
-        AccordHouse house = house(9);
+        AccordHouse house = Check.houseOfSets(9);
         house.send(0, 1, true);
         check.due("no rows", house.frame(0, 3), 0);
         check.due("no first row", house.frame(0, 8), -1);
@@ -110,7 +101,7 @@ final class FrameEdges {
     }
 
     private static void aboveSentAndSeen(Check check) {
-        AccordHouse house = house(4);
+        AccordHouse house = Check.houseOfSets(4);
         house.send(0, 1, false);
         check.due("above 0", house.frame(0, 3), 5);
         house.send(0, 1, false);
@@ -152,7 +143,7 @@ final class FrameEdges {
     }
 
     private static void sentBecomes(Check check) {
-        AccordHouse house = house(1);
+        AccordHouse house = Check.houseOfSets(1);
         house.act(1, 0, 0, 0, 0, 0);
         Check.bring(house, 1, 0);
         house.send(0, 2, false);
@@ -163,7 +154,7 @@ final class FrameEdges {
         check.dueAll("a frame without rows", q -> house.node(0, 48 + q), 2, 1, 0, 0);
         house.lose(0);
         check.dueAll("what was lost went", q -> house.node(0, 48 + q), 2, 1, 0, 0);
-        AccordHouse nine = house(8);
+        AccordHouse nine = Check.houseOfSets(8);
         nine.send(0, 3, false);
         check.due("the last one that goes", nine.node(0, 52), 8);
         nine.send(0, 3, false);
@@ -236,7 +227,7 @@ final class FrameEdges {
         dueBytes(check, house, 1, 3, 0, 0, 0, 4, 0, 0, 0, 0, 4,
             96, 2, 0, 0, 0, 0, 0, 2, 0, 0, 0, 0,
             111, 4, 242, 46, 2, 126, 128, 1, 0, 4, 0, 0, 0, 2);
-        AccordHouse eight = house(9);
+        AccordHouse eight = Check.houseOfSets(9);
         eight.send(0, 1, false);
         check.due("eight rows", eight.octet(0, 9), 16);
     }
@@ -253,7 +244,7 @@ final class FrameEdges {
 
     /** The v of a set alone in a frame; ahead of it stand 10 bytes and 4 of its row. */
     private static void dueNumber(Check check, int x, int... due) {
-        AccordHouse house = house(0);
+        AccordHouse house = Check.houseOfSets(0);
         house.send(0, 1, false);
         house.lose(0);
         house.act(0, 1, 1, 0, x, 0);
@@ -302,7 +293,7 @@ final class FrameEdges {
 
     private static void check(Check check) {
         for (int sets = 0; sets < 8; sets++) {
-            AccordHouse house = house(sets);
+            AccordHouse house = Check.houseOfSets(sets);
             house.act(0, 1, 1, 0, LEAST + 77 * sets, 0);
             house.send(0, 1 + sets % 3, sets == 5);
             int all = house.octet(0, -1);
@@ -322,7 +313,7 @@ final class FrameEdges {
         int[][] due = {{697, 0xDCC0}, {2272, 0xCCC4}, {6165, 0xE5DC}, {7238, 0x62CF}, {8036, 0xB04E}, {8, 0xEA},
             {346, 0x53}, {223, 0x6F00}, {353, 0xF100}, {245, 0xFFC8}, {926, 0xFF03}};
         for (int[] given : due) {
-            AccordHouse house = house(0);
+            AccordHouse house = Check.houseOfSets(0);
             house.send(0, 1, false);
             house.lose(0);
             house.act(0, 1, 1, 0, given[0], 0);
@@ -334,7 +325,7 @@ final class FrameEdges {
     }
 
     private static void bentWhile(Check check) {
-        AccordHouse house = house(1);
+        AccordHouse house = Check.houseOfSets(1);
         house.send(0, 1, false);
         int last = house.octet(0, -1) - 1;
         for (int i = 0; i <= last; i++) {
@@ -355,7 +346,7 @@ final class FrameEdges {
     }
 
     private static void sent(Check check) {
-        AccordHouse house = house(0);
+        AccordHouse house = Check.houseOfSets(0);
         check.due("rows", house.send(0, 1, false), true);
         check.due("an ask", house.send(0, 1, true), true);
         check.due("a frame without a row left", house.send(0, 1, false), true);
@@ -366,7 +357,7 @@ final class FrameEdges {
     }
 
     private static void sendToNone(Check check) {
-        AccordHouse house = house(0);
+        AccordHouse house = Check.houseOfSets(0);
         for (int ask = 0; ask < 2; ask++) {
             for (int node : Edges.NO_NODES) {
                 check.due("from", house.send(node, 0, ask == 1), false);
@@ -382,7 +373,7 @@ final class FrameEdges {
     }
 
     private static void noRoomToSend(Check check) {
-        AccordHouse house = house(0);
+        AccordHouse house = Check.houseOfSets(0);
         for (int i = 0; i < 60; i++) {
             check.due("send", house.send(1, 2, false), true);
         }
@@ -396,7 +387,7 @@ final class FrameEdges {
     }
 
     private static void lost(Check check) {
-        AccordHouse house = house(0);
+        AccordHouse house = Check.houseOfSets(0);
         for (int to = 1; to < 4; to++) {
             house.send(0, to, false);
         }
@@ -410,7 +401,7 @@ final class FrameEdges {
     }
 
     private static void loseNone(Check check) {
-        AccordHouse house = house(0);
+        AccordHouse house = Check.houseOfSets(0);
         check.due("none waits", house.lose(0), false);
         house.send(0, 1, false);
         for (int k : new int[] {1, -1, 60, LEAST, MOST}) {
@@ -421,7 +412,7 @@ final class FrameEdges {
     }
 
     private static void doubled(Check check) {
-        AccordHouse house = house(2);
+        AccordHouse house = Check.houseOfSets(2);
         house.send(0, 1, false);
         house.send(2, 3, true);
         check.due("twice", house.twice(0), true);
@@ -440,7 +431,7 @@ final class FrameEdges {
 
     /** With cursors of all nodes, and with a byte that is bent. */
     private static void doubledBytes(Check check) {
-        AccordHouse house = house(0);
+        AccordHouse house = Check.houseOfSets(0);
         Check.commit(house, 0, 1, 1, "ab");
         for (int node = 1; node < 4; node++) {
             house.join(node, 0);
@@ -477,7 +468,7 @@ final class FrameEdges {
     }
 
     private static void doubleNone(Check check) {
-        AccordHouse house = house(0);
+        AccordHouse house = Check.houseOfSets(0);
         check.due("none waits", house.twice(0), false);
         house.send(0, 1, false);
         for (int k : new int[] {1, -1, 60, LEAST, MOST}) {
@@ -487,7 +478,7 @@ final class FrameEdges {
     }
 
     private static void noRoomToDouble(Check check) {
-        AccordHouse house = house(0);
+        AccordHouse house = Check.houseOfSets(0);
         house.send(0, 1, false);
         for (int i = 2; i <= 60; i++) {
             check.due("twice", house.twice(i - 2), true);
@@ -501,7 +492,7 @@ final class FrameEdges {
     }
 
     private static void octetNow(Check check) {
-        AccordHouse house = house(0);
+        AccordHouse house = Check.houseOfSets(0);
         house.send(0, 1, true);
         check.due("the first one", house.octet(0, 0), 20);
         house.bend(0, 0, 255);
@@ -529,7 +520,7 @@ final class FrameEdges {
     }
 
     private static void noOctet(Check check) {
-        AccordHouse house = house(0);
+        AccordHouse house = Check.houseOfSets(0);
         check.due("none waits", house.octet(0, 0), -1);
         check.due("how many of none", house.octet(0, -1), -1);
         house.send(0, 1, true);
@@ -540,7 +531,7 @@ final class FrameEdges {
     }
 
     private static void bend(Check check) {
-        AccordHouse house = house(0);
+        AccordHouse house = Check.houseOfSets(0);
         house.send(0, 1, true);
         int last = house.octet(0, -1) - 1;
         for (int by = 1; by <= 255; by++) {
@@ -554,7 +545,7 @@ final class FrameEdges {
     }
 
     private static void bendNone(Check check) {
-        AccordHouse house = house(0);
+        AccordHouse house = Check.houseOfSets(0);
         check.due("none waits", house.bend(0, 0, 1), false);
         house.send(0, 1, true);
         for (int k : new int[] {1, -1, 60, LEAST, MOST}) {
@@ -572,7 +563,7 @@ final class FrameEdges {
     }
 
     private static void frameWhats(Check check) {
-        AccordHouse house = house(1);
+        AccordHouse house = Check.houseOfSets(1);
         house.join(3, 0);
         house.act(3, 1, 1, 0, 5, 0);
         house.send(3, 2, false);
@@ -584,7 +575,7 @@ final class FrameEdges {
     }
 
     private static void frameRows(Check check) {
-        AccordHouse house = house(8);
+        AccordHouse house = Check.houseOfSets(8);
         house.send(0, 1, false);
         check.dueAll("eight rows", i -> house.frame(0, 8 + i), 1, 2, 3, 4, 5, 6, 7, 8, -1);
         house.send(0, 1, false);
@@ -594,7 +585,7 @@ final class FrameEdges {
     }
 
     private static void frameOfNone(Check check) {
-        AccordHouse house = house(0);
+        AccordHouse house = Check.houseOfSets(0);
         check.due("none waits", house.frame(0, 0), -1);
         house.send(0, 1, false);
         check.dueEach("frame", k -> house.frame(k, 0), -1, 1, -1, 60, LEAST, MOST);

@@ -19,17 +19,8 @@ public final class LooksTest {
         CHECK.end();
     }
 
-    private static AccordHouse house(String... kinds) {
-        AccordHouse house = new AccordHouse();
-        for (int i = 0; i < kinds.length; i++) {
-            Check.kind(house, kinds[i]);
-            house.act(0, 0, 0, 0, i, 0);
-        }
-        return house;
-    }
-
     private static void pastValues() {
-        AccordHouse house = house("LC", "LC");
+        AccordHouse house = Check.house("LC", "LC");
         house.act(0, 1, 1, 0, 5, 0);
         house.act(0, 3, 1, 1, 2, 0);
         house.act(0, 1, 1, 0, 6, 0);
@@ -49,7 +40,7 @@ public final class LooksTest {
     }
 
     private static void pastRefused() {
-        AccordHouse house = house("LCST");
+        AccordHouse house = Check.house("LCST");
         CHECK.due("none", house.past(0, 0, 1, 0), 0);
         CHECK.due("all", house.past(0, 1, 1, 0), 0);
         CHECK.dueNoSuch("k 2", () -> house.past(0, 2, 1, 0));
@@ -66,7 +57,7 @@ public final class LooksTest {
 
     /** By the order in which rows came to the node, with what ORDER says of those. */
     private static void pastOfAnother() {
-        AccordHouse house = house("LC");
+        AccordHouse house = Check.house("LC");
         house.join(1, 0);
         house.tick(1, 5);
         house.act(1, 1, 1, 0, 10, 0);
@@ -80,7 +71,7 @@ public final class LooksTest {
     }
 
     private static void rows() {
-        AccordHouse house = house("LM");
+        AccordHouse house = Check.house("LM");
         house.tick(0, 3);
         house.act(0, 15, 1, 1, 7, -9);
         house.join(1, 0);
@@ -101,7 +92,7 @@ public final class LooksTest {
     }
 
     private static void rowsRefused() {
-        AccordHouse house = house("L");
+        AccordHouse house = Check.house("L");
         int[] names = {0, 2, -1, 250, 251, 999, 1000, 1001, 3001, 4001, -999, Integer.MAX_VALUE, Integer.MIN_VALUE};
         for (int name : names) {
             CHECK.due("row " + name, house.row(0, name, 0), -1);
@@ -141,7 +132,7 @@ public final class LooksTest {
     }
 
     private static void stableRows() {
-        AccordHouse house = house("L");
+        AccordHouse house = Check.house("L");
         for (int i = 0; i < 3; i++) {
             house.act(0, 1, 1, 0, i, 0);
         }
@@ -164,7 +155,7 @@ public final class LooksTest {
     }
 
     private static void newsOfAll() {
-        AccordHouse house = house("LSCBAT", "M");
+        AccordHouse house = Check.house("LSCBAT", "M");
         dueNews(house, 0, 0, 1, 1, 7);
         dueNews(house, 0, 1, 2, 2, 7);
         int[][] acts = {{1, 0, 5, 0}, {2, 1, 5, 0}, {3, 2, 5, 0}, {4, 3, 5, 0}, {7, 4, 5, 0}, {9, 5, 'a', 0},
@@ -198,7 +189,7 @@ public final class LooksTest {
 
     /** Rows by which nothing else is seen are no news. */
     private static void newsByValues() {
-        AccordHouse house = house("LSCBAT", "M");
+        AccordHouse house = Check.house("LSCBAT", "M");
         house.act(0, 1, 1, 0, 5, 0);
         house.act(0, 2, 1, 1, 5, 0);
         house.act(0, 7, 1, 4, 5, 0);
@@ -220,7 +211,7 @@ public final class LooksTest {
     }
 
     private static void newsOfOthers() {
-        AccordHouse house = house("LT", "L");
+        AccordHouse house = Check.house("LT", "L");
         Check.commit(house, 0, 1, 1, "a");
         house.act(0, 12, 1, 0, 0, 0);
         Check.bring(house, 0, 1);
@@ -245,7 +236,7 @@ public final class LooksTest {
     }
 
     private static void newsAreLimited() {
-        AccordHouse house = house("LM");
+        AccordHouse house = Check.house("LM");
         Check.bring(house, 0, 1);
         for (int i = 0; i < 249; i++) {
             house.act(1, 1, 1, 0, i + 1, 0);
@@ -263,7 +254,7 @@ public final class LooksTest {
     }
 
     private static void calms() {
-        AccordHouse house = house("L");
+        AccordHouse house = Check.house("L");
         house.stand(0, 0, 0, 0, 1, 5);
         house.act(0, 1, 1, 0, 5, 0);
         CHECK.due("node -1", house.calm(-1), -1);
@@ -279,7 +270,7 @@ public final class LooksTest {
     }
 
     private static void nodes() {
-        AccordHouse house = house("L", "L");
+        AccordHouse house = Check.house("L", "L");
         house.tick(0, 4);
         house.act(0, 1, 1, 0, 5, 0);
         house.act(0, 1, 1, 0, 6, 0);
@@ -313,7 +304,7 @@ public final class LooksTest {
     }
 
     private static void totals() {
-        AccordHouse house = house("L", "LT");
+        AccordHouse house = Check.house("L", "LT");
         house.act(3, 0, 0, 0, 0, 0);
         Check.type(house, "abc");
         house.send(0, 1, false);

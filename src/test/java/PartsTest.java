@@ -30,20 +30,7 @@ public final class PartsTest {
 
     /** Object 1 of kind LSCBAT and object 2 of kind M are at all nodes. */
     private static AccordHouse house() {
-        AccordHouse house = new AccordHouse();
-        Check.kind(house, "LSCBAT");
-        Check.kind(house, "M");
-        house.act(0, 0, 0, 0, 0, 0);
-        house.act(0, 0, 0, 0, 1, 0);
-        for (int node = 1; node < 4; node++) {
-            house.join(node, 0);
-        }
-        return house;
-    }
-
-    private static void meet(AccordHouse house, int one, int other) {
-        Check.bring(house, one, other);
-        Check.bring(house, other, one);
+        return Check.everywhere("LSCBAT", "M");
     }
 
     private static void whatIsNotThere() {
@@ -113,13 +100,13 @@ public final class PartsTest {
         house.tick(1, 5);
         house.act(1, 1, 1, L, 10, 0);
         house.act(0, 1, 1, L, 20, 0);
-        meet(house, 0, 1);
+        Check.meet(house, 0, 1);
         CHECK.due("the later time counts, not the later coming", house.value(0, 1, L, 0), 10);
         CHECK.due("at both", house.value(1, 1, L, 0), 10);
         CHECK.due("by", house.by(0, 1, L, 0), 1001);
         house.act(2, 1, 1, L, 30, 0);
         house.act(3, 1, 1, L, 40, 0);
-        meet(house, 2, 3);
+        Check.meet(house, 2, 3);
         CHECK.due("the greater node at the same stamp", house.value(2, 1, L, 0), 40);
         CHECK.due("at both", house.value(3, 1, L, 0), 40);
         house.act(2, 1, 1, L, Integer.MIN_VALUE, 0);
@@ -168,7 +155,7 @@ public final class PartsTest {
         house.act(0, 3, 1, C, Integer.MAX_VALUE, 0);
         house.act(1, 3, 1, C, 5, 0);
         house.act(1, 3, 1, C, -3, 0);
-        meet(house, 0, 1);
+        Check.meet(house, 0, 1);
         CHECK.due("it wraps", house.value(0, 1, C, 0), Integer.MIN_VALUE + 1);
         CHECK.due("at both", house.value(1, 1, C, 0), Integer.MIN_VALUE + 1);
         house.act(1, 13, 0, 0, 0, 0);
@@ -182,8 +169,8 @@ public final class PartsTest {
         house.act(0, 6, 1, B, 30, 2);
         house.act(0, 5, 1, B, 20, 0);
         house.act(1, 4, 1, B, 7, 0);
-        meet(house, 0, 1);
-        meet(house, 0, 2);
+        Check.meet(house, 0, 1);
+        Check.meet(house, 0, 2);
         CHECK.dueText("shares", Check.values(house, 2, 1, B), "50,7,30,0,87");
         CHECK.due("lend on", house.act(2, 6, 1, B, 30, 3), 2001);
         CHECK.due("none is left", house.act(2, 5, 1, B, 1, 0), -5);
@@ -202,19 +189,19 @@ public final class PartsTest {
         house.act(0, 7, 1, A, 0, 0);
         CHECK.dueText("the least first", Check.values(house, 0, 1, A), "0,5,63");
         CHECK.due("by", house.by(0, 1, A, 2), 3);
-        meet(house, 0, 1);
+        Check.meet(house, 0, 1);
         house.act(0, 7, 1, A, 5, 0);
         house.act(1, 8, 1, A, 5, 0);
         house.act(1, 8, 1, A, 0, 0);
         CHECK.dueText("left", Check.values(house, 1, 1, A), "63");
-        meet(house, 0, 1);
+        Check.meet(house, 0, 1);
         CHECK.dueText("an enter that the leave did not know stays", Check.values(house, 0, 1, A), "5,63");
         CHECK.dueText("at both", Check.values(house, 1, 1, A), "5,63");
         CHECK.due("by that enter", house.by(1, 1, A, 0), 6);
         house.act(1, 7, 1, A, 5, 0);
         CHECK.due("by the last one of two", house.by(1, 1, A, 0), 1003);
         house.act(1, 8, 1, A, 5, 0);
-        meet(house, 0, 1);
+        Check.meet(house, 0, 1);
         CHECK.dueText("now it knew all", Check.values(house, 0, 1, A), "63");
     }
 
@@ -241,11 +228,11 @@ public final class PartsTest {
         CHECK.dueNoSuch("no key 4", () -> house.bound(0, 2, 0, 4));
         CHECK.dueNoSuch("no key -1", () -> house.bound(0, 2, 0, -1));
         CHECK.dueNoSuch("no key 64", () -> house.bound(0, 2, 0, 64));
-        meet(house, 0, 1);
+        Check.meet(house, 0, 1);
         house.act(0, 16, 2, 0, 3, 0);
         house.tick(1, 1);
         house.act(1, 15, 2, 0, 3, 8);
-        meet(house, 0, 1);
+        Check.meet(house, 0, 1);
         CHECK.due("the last in order counts", house.bound(0, 2, 0, 3), 8);
         CHECK.due("at both", house.bound(1, 2, 0, 3), 8);
         house.act(0, 16, 2, 0, 3, 0);
@@ -259,23 +246,23 @@ public final class PartsTest {
     private static void texts() {
         AccordHouse house = house();
         Check.commit(house, 0, 1, T, "ad");
-        meet(house, 0, 1);
+        Check.meet(house, 0, 1);
         house.act(0, 9, 1, T, 'b', 1);
         house.act(0, 9, 1, T, 'c', 2);
         house.act(1, 9, 1, T, 'x', 1);
         house.act(1, 9, 1, T, 'y', 2);
-        meet(house, 0, 1);
+        Check.meet(house, 0, 1);
         CHECK.dueText("the later in order first, with its own", Check.text(house, 0, 1, T), "axybcd");
         CHECK.dueText("at both", Check.text(house, 1, 1, T), "axybcd");
         CHECK.due("by", house.by(0, 1, T, 1), 1001);
         house.act(0, 10, 1, T, 0, 1);
         house.act(1, 10, 1, T, 0, 1);
-        meet(house, 0, 1);
+        Check.meet(house, 0, 1);
         CHECK.dueText("erased by both", Check.text(house, 0, 1, T), "aybcd");
         house.act(0, 13, 0, 0, 0, 0);
         CHECK.dueText("one erase is left", Check.text(house, 0, 1, T), "aybcd");
         house.act(1, 13, 0, 0, 0, 0);
-        meet(house, 0, 1);
+        Check.meet(house, 0, 1);
         CHECK.dueText("none is left", Check.text(house, 0, 1, T), "axybcd");
         CHECK.due("size", house.size(1, 1, T), 6);
     }
@@ -296,19 +283,19 @@ public final class PartsTest {
         Check.bring(house, 0, 1);
         house.act(1, 9, 1, T, 'r', 4);
         CHECK.dueText("behind b", Check.text(house, 1, 1, T), "qazbrc");
-        meet(house, 0, 1);
+        Check.meet(house, 0, 1);
         CHECK.dueText("at both", Check.text(house, 0, 1, T), "qazbrc");
     }
 
     private static void parents() {
         AccordHouse house = house();
         house.act(0, 0, 0, 0, 0, 0);
-        meet(house, 0, 1);
+        Check.meet(house, 0, 1);
         house.act(0, 11, 1, 0, 2, 0);
         house.act(1, 11, 2, 0, 1, 0);
         CHECK.due("here 2 is the parent", house.object(0, 1, 2), 2);
         CHECK.due("there 1 is", house.object(1, 2, 2), 1);
-        meet(house, 0, 1);
+        Check.meet(house, 0, 1);
         for (int node = 0; node < 2; node++) {
             CHECK.due("the first in order stays", house.object(node, 1, 2), 2);
             CHECK.due("the later one would be a ring", house.object(node, 2, 2), -1);
@@ -350,7 +337,7 @@ public final class PartsTest {
         CHECK.due("it is no child that is there", house.object(0, 2, 3), 0);
         house.act(0, 12, 2, 0, 0, 0);
         CHECK.due("a parent need not be there", house.object(0, 1, 2), 2);
-        meet(house, 0, 1);
+        Check.meet(house, 0, 1);
         CHECK.due("nor there", house.object(1, 1, 0), 0);
         house.act(0, 13, 0, 0, 0, 0);
         house.act(0, 13, 0, 0, 0, 0);
@@ -363,7 +350,7 @@ public final class PartsTest {
         house.act(0, 17, 1, 0, 10, 0);
         house.tick(1, 4);
         house.act(1, 17, 1, 0, 50, 0);
-        meet(house, 0, 1);
+        Check.meet(house, 0, 1);
         CHECK.due("the first in order holds", house.object(1, 1, 4), 0);
         CHECK.due("NOW is LAST's time", house.node(0, 9), 4);
         house.tick(0, 9);
@@ -380,10 +367,10 @@ public final class PartsTest {
         house.act(0, 18, 1, 0, 0, 0);
         CHECK.due("released", house.object(0, 1, 4), -1);
         CHECK.due("the other object is free", house.object(0, 2, 4), -1);
-        meet(house, 0, 2);
+        Check.meet(house, 0, 2);
         house.act(2, 17, 1, 0, 1, 0);
         CHECK.due("taken over", house.object(2, 1, 4), 2);
-        meet(house, 2, 0);
+        Check.meet(house, 2, 0);
         CHECK.due("as seen there", house.object(0, 1, 4), 2);
     }
 }

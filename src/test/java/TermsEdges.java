@@ -225,56 +225,42 @@ final class TermsEdges {
         check.due("at one time on and on", house.row(1, 1250, 6), 250);
     }
 
-    /** Object 1 at all nodes. */
-    private static AccordHouse everywhere(String... kinds) {
-        AccordHouse house = Check.house(kinds);
-        for (int node = 1; node < 4; node++) {
-            house.join(node, 0);
-        }
-        return house;
-    }
-
-    private static void meet(AccordHouse house, int one, int other) {
-        Check.bring(house, one, other);
-        Check.bring(house, other, one);
-    }
-
     private static void order(Check check) {
-        AccordHouse byTime = everywhere("L");
+        AccordHouse byTime = Check.everywhere("L");
         byTime.act(3, 1, 1, 0, 30, 0);
         byTime.act(3, 1, 1, 0, 31, 0);
         byTime.tick(0, 1);
         byTime.act(0, 1, 1, 0, 1, 0);
-        meet(byTime, 0, 3);
+        Check.meet(byTime, 0, 3);
         check.due("time ahead of count and node", byTime.value(3, 1, 0, 0), 1);
-        AccordHouse byCount = everywhere("L");
+        AccordHouse byCount = Check.everywhere("L");
         byCount.act(3, 1, 1, 0, 30, 0);
         byCount.act(0, 1, 1, 0, 1, 0);
         byCount.act(0, 1, 1, 0, 2, 0);
-        meet(byCount, 0, 3);
+        Check.meet(byCount, 0, 3);
         check.due("count ahead of node", byCount.value(3, 1, 0, 0), 2);
         check.due("at both", byCount.value(0, 1, 0, 0), 2);
-        AccordHouse byNode = everywhere("L");
+        AccordHouse byNode = Check.everywhere("L");
         for (int node = 3; node >= 0; node--) {
             byNode.act(node, 1, 1, 0, 10 + node, 0);
         }
         check.due("the same time", byNode.row(0, 2, 5), byNode.row(3, 3001, 5));
         check.due("the same count", byNode.row(0, 2, 6), byNode.row(3, 3001, 6));
         for (int node = 1; node < 4; node++) {
-            meet(byNode, 0, node);
+            Check.meet(byNode, 0, node);
             check.due("the greatest node", byNode.value(0, 1, 0, 0), 10 + node);
         }
     }
 
     private static void knew(Check check) {
-        AccordHouse house = everywhere("S");
+        AccordHouse house = Check.everywhere("S");
         house.act(0, 2, 1, 0, 1, 0);
         Check.bring(house, 0, 1);
         house.act(1, 2, 1, 0, 11, 0);
         check.due("exactly that one's number", house.row(1, 1001, 10), 2);
         check.dueText("it is known", Check.values(house, 1, 1, 0), "11");
         house.act(0, 2, 1, 0, 2, 0);
-        meet(house, 0, 1);
+        Check.meet(house, 0, 1);
         check.dueText("one less: not known", Check.values(house, 0, 1, 0), "2,11");
         check.dueText("at both", Check.values(house, 1, 1, 0), "2,11");
         house.act(0, 2, 1, 0, 3, 0);
@@ -282,7 +268,7 @@ final class TermsEdges {
     }
 
     private static void good(Check check) {
-        AccordHouse house = everywhere("L");
+        AccordHouse house = Check.everywhere("L");
         house.act(0, 1, 1, 0, 5, 0);
         check.due("none is for it", house.row(0, 2, 7), 1);
         house.act(0, 13, 0, 0, 0, 0);
@@ -303,7 +289,7 @@ final class TermsEdges {
 
     /** Three nodes change the same parts; the fourth one and the third get this in other orders. */
     private static void whateverOrder(Check check) {
-        AccordHouse house = everywhere("LSCBAT", "M");
+        AccordHouse house = Check.everywhere("LSCBAT", "M");
         int[][] acts = {{1, 1, 0, 5, 0}, {2, 1, 1, 6, 0}, {3, 1, 2, 7, 0}, {4, 1, 3, 8, 0}, {7, 1, 4, 9, 0},
             {9, 1, 5, 'a', 0}, {15, 2, 0, 10, 11}, {11, 1, 0, 2, 0}, {12, 2, 0, 0, 0}, {17, 1, 0, 50, 0}};
         for (int node = 0; node < 3; node++) {
@@ -332,17 +318,17 @@ final class TermsEdges {
     }
 
     private static void there(Check check) {
-        AccordHouse house = everywhere("L");
+        AccordHouse house = Check.everywhere("L");
         check.due("made", house.object(0, 1, 0), 1);
         house.act(0, 12, 1, 0, 0, 0);
         house.act(1, 12, 1, 0, 0, 0);
-        meet(house, 0, 1);
+        Check.meet(house, 0, 1);
         check.due("two drops", house.object(0, 1, 0), 0);
         house.act(0, 13, 0, 0, 0, 0);
         check.due("one of them is good", house.object(0, 1, 0), 0);
         house.act(1, 13, 0, 0, 0, 0);
         check.due("its own one is undone, the other one is not yet", house.object(1, 1, 0), 0);
-        meet(house, 0, 1);
+        Check.meet(house, 0, 1);
         check.due("none is good", house.object(0, 1, 0), 1);
         check.due("nor at the other one", house.object(1, 1, 0), 1);
         house.act(2, 0, 0, 0, 0, 0);
@@ -362,7 +348,7 @@ final class TermsEdges {
     }
 
     private static void latest(Check check) {
-        AccordHouse house = everywhere("LL");
+        AccordHouse house = Check.everywhere("LL");
         check.due("0 without", house.value(0, 1, 0, 0), 0);
         house.act(0, 1, 1, 0, Integer.MIN_VALUE, 0);
         check.due("the least", house.value(0, 1, 0, 0), Integer.MIN_VALUE);
@@ -376,7 +362,7 @@ final class TermsEdges {
     }
 
     private static void several(Check check) {
-        AccordHouse house = everywhere("S");
+        AccordHouse house = Check.everywhere("S");
         check.dueText("none", Check.values(house, 0, 1, 0), "");
         for (int node = 0; node < 4; node++) {
             house.tick(node, 10 - node);
@@ -411,12 +397,12 @@ final class TermsEdges {
     }
 
     private static void shares(Check check) {
-        AccordHouse house = everywhere("B");
+        AccordHouse house = Check.everywhere("B");
         check.dueText("of none", Check.values(house, 0, 1, 0), "0,0,0,0,0");
         house.act(3, 4, 1, 0, 1000, 0);
         house.act(3, 6, 1, 0, 1000, 0);
         check.dueText("all is lent", Check.values(house, 3, 1, 0), "1000,0,0,0,1000");
-        meet(house, 3, 0);
+        Check.meet(house, 3, 0);
         house.act(0, 5, 1, 0, 1000, 0);
         check.dueText("all is spent", Check.values(house, 0, 1, 0), "0,0,0,0,0");
         check.due("five", house.size(0, 1, 0), 5);
@@ -424,7 +410,7 @@ final class TermsEdges {
     }
 
     private static void set(Check check) {
-        AccordHouse house = everywhere("AA");
+        AccordHouse house = Check.everywhere("AA");
         check.dueText("none", Check.values(house, 0, 1, 0), "");
         for (int v = 63; v >= 0; v--) {
             house.act(0, 7, 1, 0, v, 0);
@@ -434,10 +420,10 @@ final class TermsEdges {
             check.due("the least first", house.value(0, 1, 0, v), v);
         }
         check.due("the other part", house.size(0, 1, 1), 0);
-        meet(house, 0, 1);
+        Check.meet(house, 0, 1);
         house.act(1, 8, 1, 0, 5, 0);
         house.act(0, 7, 1, 0, 5, 0);
-        meet(house, 0, 1);
+        Check.meet(house, 0, 1);
         check.due("an enter that the leave did not know", house.value(1, 1, 0, 5), 5);
         check.due("by it", house.by(1, 1, 0, 5), 66);
         house.act(1, 8, 1, 0, 5, 0);
@@ -445,7 +431,7 @@ final class TermsEdges {
         check.due("of the same v alone", house.value(1, 1, 0, 5), 6);
         house.act(1, 13, 0, 0, 0, 0);
         check.due("the leave is not good", house.size(1, 1, 0), 64);
-        AccordHouse others = everywhere("A");
+        AccordHouse others = Check.everywhere("A");
         for (int node = 1; node < 4; node++) {
             check.due("a node's first row", others.act(node, 7, 1, 0, 10 - node, 0), 1000 * node + 1);
             others.act(node, 7, 1, 0, 9 - node, 0);
@@ -459,7 +445,7 @@ final class TermsEdges {
     }
 
     private static void text(Check check) {
-        AccordHouse house = everywhere("TT");
+        AccordHouse house = Check.everywhere("TT");
         check.dueText("none", Check.text(house, 0, 1, 0), "");
         house.act(0, 9, 1, 0, 'a', 0);
         house.act(0, 9, 1, 0, 'b', 0);
@@ -468,7 +454,7 @@ final class TermsEdges {
         house.act(3, 9, 1, 0, 'x', 0);
         house.act(3, 9, 1, 0, 'y', 1);
         house.act(3, 9, 1, 0, 'z', 1);
-        meet(house, 0, 3);
+        Check.meet(house, 0, 3);
         check.dueText("each followed by what is behind it", Check.text(house, 0, 1, 0), "cbxzya");
         check.dueText("at both", Check.text(house, 3, 1, 0), "cbxzya");
         check.dueText("the other part", Check.text(house, 0, 1, 1), "");
@@ -498,17 +484,17 @@ final class TermsEdges {
     }
 
     private static void standing(Check check) {
-        AccordHouse house = everywhere("T");
+        AccordHouse house = Check.everywhere("T");
         Check.commit(house, 0, 1, 0, "abc");
-        meet(house, 0, 1);
+        Check.meet(house, 0, 1);
         house.act(0, 10, 1, 0, 0, 1);
         house.act(1, 10, 1, 0, 0, 1);
-        meet(house, 0, 1);
+        Check.meet(house, 0, 1);
         check.dueText("two erases", Check.text(house, 0, 1, 0), "ac");
         house.act(0, 13, 0, 0, 0, 0);
         check.dueText("one good erase", Check.text(house, 0, 1, 0), "ac");
         house.act(1, 13, 0, 0, 0, 0);
-        meet(house, 0, 1);
+        Check.meet(house, 0, 1);
         check.dueText("no good erase", Check.text(house, 0, 1, 0), "abc");
         house.act(0, 13, 0, 0, 0, 0);
         house.act(0, 13, 0, 0, 0, 0);
@@ -520,7 +506,7 @@ final class TermsEdges {
     }
 
     private static void map(Check check) {
-        AccordHouse house = everywhere("M");
+        AccordHouse house = Check.everywhere("M");
         check.dueText("none", Check.values(house, 0, 1, 0), "");
         for (int key = 63; key >= 0; key--) {
             house.act(0, 15, 1, 0, key, 100 + key);
@@ -530,10 +516,10 @@ final class TermsEdges {
             check.due("the least first", house.value(0, 1, 0, key), key);
             check.due("what it is bound to", house.bound(0, 1, 0, key), 100 + key);
         }
-        meet(house, 0, 1);
+        Check.meet(house, 0, 1);
         house.act(1, 15, 1, 0, 5, 7);
         house.act(0, 16, 1, 0, 5, 0);
-        meet(house, 0, 1);
+        Check.meet(house, 0, 1);
         check.due("the same stamp but for the node: the bind is last", house.bound(0, 1, 0, 5), 7);
         house.act(0, 16, 1, 0, 5, 0);
         check.due("the unbind is last", house.size(0, 1, 0), 63);
@@ -542,19 +528,19 @@ final class TermsEdges {
     }
 
     private static void claimHeld(Check check) {
-        AccordHouse house = everywhere("L");
+        AccordHouse house = Check.everywhere("L");
         house.act(0, 17, 1, 0, 10, 0);
         house.tick(1, 9);
         house.act(1, 17, 1, 0, 50, 0);
         house.tick(2, 10);
         house.act(2, 17, 1, 0, 50, 0);
-        meet(house, 0, 1);
-        meet(house, 0, 2);
+        Check.meet(house, 0, 1);
+        Check.meet(house, 0, 2);
         check.due("9 is held by the first, 10 by nobody", house.object(0, 1, 4), 2);
         check.due("NOW", house.node(0, 9), 10);
         house.tick(0, 60);
         check.due("it is over", house.object(0, 1, 4), -1);
-        AccordHouse own = everywhere("L");
+        AccordHouse own = Check.everywhere("L");
         own.act(0, 17, 1, 0, 10, 0);
         own.tick(0, 9);
         own.act(0, 17, 1, 0, 10, 0);
@@ -584,7 +570,7 @@ final class TermsEdges {
     }
 
     private static void release(Check check) {
-        AccordHouse house = everywhere("L");
+        AccordHouse house = Check.everywhere("L");
         house.act(0, 17, 1, 0, 10, 0);
         house.tick(0, 3);
         house.act(0, 18, 1, 0, 0, 0);
@@ -592,16 +578,16 @@ final class TermsEdges {
         house.act(1, 17, 1, 0, 5, 0);
         house.tick(1, 4);
         house.act(1, 18, 1, 0, 0, 0);
-        meet(house, 0, 1);
+        Check.meet(house, 0, 1);
         check.due("a claim that was nothing", house.object(0, 1, 4), -1);
         house.act(0, 17, 1, 0, 10, 0);
         check.due("it is held", house.object(0, 1, 4), 0);
-        AccordHouse other = everywhere("L");
+        AccordHouse other = Check.everywhere("L");
         other.act(0, 17, 1, 0, 50, 0);
         other.act(1, 17, 1, 0, 50, 0);
         other.tick(1, 5);
         other.act(1, 18, 1, 0, 0, 0);
-        meet(other, 0, 1);
+        Check.meet(other, 0, 1);
         check.due("a release of another node does nothing", other.object(1, 1, 4), 0);
     }
 
@@ -708,11 +694,11 @@ final class TermsEdges {
         int name = house.act(node, 0, 0, 0, 0, 0);
         for (int m = 0; m < 4; m++) {
             if (m != node && m != last) {
-                meet(house, node, m);
+                Check.meet(house, node, m);
             }
         }
         check.due("node " + last + " is missing", house.row(node, name, 8), 0);
-        meet(house, node, last);
+        Check.meet(house, node, last);
         check.due("none is missing", house.row(node, name, 8), 1);
         check.due("one row", house.node(node, 7), 1);
         check.due("not so there", house.row(last, name, 8), 0);
